@@ -470,9 +470,9 @@ public final class BumpsRiver {
             prey = new Tally(MOST_CREWS, NONE);
         }
 
-        void lineUp(Row order, int first, int last) {
+        void lineUp(Row order, int first, int most) {
             close();
-            for (int place = first; place <= last && place < order.size(); place++) {
+            for (int place = first; place < first + most && place < order.size(); place++) {
                 starters.append(order.at(place));
             }
         }
@@ -551,15 +551,13 @@ public final class BumpsRiver {
         }
 
         private void openYear(Row order) {
-            rose.wipe();
-            sank.wipe();
             for (int place = 0; place < order.size(); place++) {
                 rose.put(order.at(place), 1);
                 sank.put(order.at(place), 1);
             }
         }
 
-        /** A crew that comes again in the same year was not in the chart all the while. */
+        /** A crew that lapses was not in the chart all the while, even if it comes again in that year. */
         void forget(int crew) {
             rose.put(crew, 0);
             sank.put(crew, 0);
@@ -608,7 +606,6 @@ public final class BumpsRiver {
         private final Tally overbumps;
         private final Tally charts;
         private int placesOfDivision;
-        private int divisions;
         private int racing;
         private int days;
 
@@ -622,7 +619,6 @@ public final class BumpsRiver {
             overbumps = new Tally(MOST_CREWS, 0);
             charts = new Tally(MOST_DAYS * MOST_CREWS, NONE);
             placesOfDivision = FIRST_DIVISION;
-            divisions = 0;
             racing = NONE;
             days = 0;
         }
@@ -662,7 +658,7 @@ public final class BumpsRiver {
         }
 
         int openDay() {
-            divisions = divisionsOf(order.size(), placesOfDivision);
+            int divisions = divisionsOf(order.size(), placesOfDivision);
             racing = divisions - 1;
             years.openDay(order, days);
             lineUp();
@@ -679,11 +675,9 @@ public final class BumpsRiver {
             return Math.max(1, left > 1 ? whole + 1 : whole);
         }
 
-        /** The sandwich boat is at the place right behind the division, and so rows last in it. */
+        /** One crew more: the sandwich boat, or, in the last division, the place that would be left alone. */
         private void lineUp() {
-            int first = racing * placesOfDivision;
-            boolean lastDivision = racing == divisions - 1;
-            race.lineUp(order, first, lastDivision ? order.size() - 1 : first + placesOfDivision);
+            race.lineUp(order, racing * placesOfDivision, placesOfDivision + 1);
         }
 
         int starter(int index) {
@@ -777,7 +771,6 @@ public final class BumpsRiver {
         int startAnew() {
             int was = round;
             seeds.clear();
-            chosen.clear();
             clearRound();
             heats = 0;
             round = ENTERING;

@@ -29,6 +29,7 @@ public final class PromiseTest {
         promise14Bumps();
         promise14BladesAndSpoons();
         promise14NeitherBladesNorSpoons();
+        promise14NoSpoonsForOneThatLapsed();
         promise14SecondYear();
         promise15Seed();
         promise16Draw();
@@ -39,6 +40,7 @@ public final class PromiseTest {
         promise19FinalOfFourHeats();
         promise19FinalWithoutTimes();
         promise20Regatta();
+        promise20SecondOfFourHeats();
         promise21Result();
         promise22Verdict();
         promise23Head();
@@ -544,6 +546,27 @@ public final class PromiseTest {
         due("14: those that went up between days have no blades", 0, fallen.bumps(5, 3));
     }
 
+    /** Crew 0 falls on each day of the year, but is out of the chart between two of them. */
+    private static void promise14NoSpoonsForOneThatLapsed() {
+        BumpsRiver x = withCrews(8);
+        for (int crew = 0; crew < 4; crew++) {
+            x.enter(crew);
+        }
+        for (int day = 0; day < 4; day++) {
+            if (day == 2) {
+                x.lapse(0);
+                x.enter(0);
+                x.enter(4);
+                x.enter(5);
+            }
+            x.begin();
+            due("14: crew 0 is bumped on day " + day, 0, x.contact(x.rows(x.place(0) + 1)));
+            x.end();
+        }
+        due("14: bumped four times", 4, x.bumps(0, 1));
+        due("14: no spoons", 0, x.bumps(0, 4));
+    }
+
     private static void promise14SecondYear() {
         BumpsRiver x = withChart(16, 8);
         for (int day = 0; day < 4; day++) {
@@ -769,6 +792,32 @@ public final class PromiseTest {
         fails("20: the head stays", STATE, x, () -> x.head(0));
     }
 
+    /** What the one regatta left can't come into the next one's final. */
+    private static void promise20SecondOfFourHeats() {
+        BumpsRiver x = withSeeds(24);
+        x.draw();
+        for (int crew = 0; crew < 24; crew++) {
+            x.time(crew, 1000 + crew);
+        }
+        x.next();
+        lanesAre("20: the first one", x, 0, 4, 2, 0, 1, 3, 5);
+        x.time(5, 1);
+        x.next();
+        due("20: its best one", 5, x.result(0));
+        x.regatta();
+        for (int crew = 23; crew >= 0; crew--) {
+            x.seed(crew);
+        }
+        x.draw();
+        x.time(0, 5000);
+        x.time(16, 5000);
+        x.next();
+        // heat 0: 23 16 15 8 7 0; 16 is its first, then 0 by its time; 22, 21 and 20 are first without one
+        lanesAre("20: the next one", x, 0, 20, 22, 16, 0, 21, -1);
+        x.next();
+        resultsAre("20: the next one", x, 22, 21, 20, 16, 0);
+    }
+
     private static void promise21Result() {
         BumpsRiver x = withSeeds(3);
         fails("21: below 0", INDEX, x, () -> x.result(-1));
@@ -897,6 +946,9 @@ public final class PromiseTest {
         due("26: not in the head", BumpsRiver.NONE, x.rank(5));
         x.finish(0, 100000);
         due("26: alone", 0, x.rank(0));
+        BumpsRiver early = withHead(1);
+        early.finish(0, 1);
+        due("26: the earliest finish", 0, early.rank(0));
         x.finish(1, 115000);
         x.finish(2, 129999);
         x.finish(3, 145001);
