@@ -321,12 +321,16 @@ public final class BumpsRiver {
             return count;
         }
 
+        private boolean holds(int index) {
+            return index >= 0 && index < count && index < cells.length;
+        }
+
         int at(int index) {
-            return index >= 0 && index < count ? cells[index] : NONE;
+            return holds(index) ? cells[index] : NONE;
         }
 
         int indexOf(int value) {
-            for (int i = 0; i < count; i++) {
+            for (int i = 0; i < count && i < cells.length; i++) {
                 if (cells[i] == value) {
                     return i;
                 }
@@ -354,17 +358,17 @@ public final class BumpsRiver {
         }
 
         void removeAt(int index) {
-            if (index < 0 || index >= count) {
+            if (!holds(index)) {
                 return;
             }
-            for (int i = index; i < count - 1; i++) {
+            for (int i = index; i + 1 < count && i + 1 < cells.length; i++) {
                 cells[i] = cells[i + 1];
             }
             count--;
         }
 
         void exchange(int one, int other) {
-            if (one < 0 || one >= count || other < 0 || other >= count) {
+            if (!holds(one) || !holds(other)) {
                 return;
             }
             int kept = cells[one];
