@@ -83,8 +83,11 @@ public final class FaceTest {
         for (String line : FACE) {
             names.add(line.substring(0, line.indexOf(' ')));
         }
-        List<Class<?>> all = new ArrayList<>(List.of(BumpsRiver.class.getDeclaredClasses()));
-        for (Class<?> inside : all) {
+        for (Method method : BumpsRiver.class.getDeclaredMethods()) {
+            boolean closed = !Modifier.isPublic(method.getModifiers());
+            CHECK.due("a name of the face twice: " + method, !closed || !names.contains(method.getName()));
+        }
+        for (Class<?> inside : BumpsRiver.class.getDeclaredClasses()) {
             for (Method method : inside.getDeclaredMethods()) {
                 CHECK.due("a name of the face inside: " + method, !names.contains(method.getName()));
             }
